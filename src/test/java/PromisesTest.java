@@ -531,6 +531,9 @@ public final class PromisesTest {
         x = with("CaCaa", "C".repeat(10) + "a".repeat(11));
         due("a result that is too large is not entered", x.round(39), 1);
         dueFormula(x, 2, "CCaCaaCaCaa");
+        x = with("CCaaa", "Cab");
+        due("results of one letter", x.round(1), 1);
+        dueFormula(x, 2, "a");
         fullRounds();
     }
 
@@ -671,6 +674,10 @@ public final class PromisesTest {
         due("isNormal() with 2 -> 1 designated", x.isNormal(), 0);
         due("setDesignated(7)", x.setDesignated(7), 4);
         due("isNormal() with all designated", x.isNormal(), 1);
+        due("setDesignated(1)", x.setDesignated(1), 7);
+        due("isNormal() with 0 designated", x.isNormal(), 1);
+        due("setEntry(0, 2, 0)", x.setEntry(0, 2, 0), 2);
+        due("isNormal() with 0 -> 2 designated", x.isNormal(), 0);
     }
 
     private static void valuations() {
