@@ -518,15 +518,15 @@ public final class CondensedDetachment {
         int held = 0;
         for (int i = 0; i < term.length(); i++) {
             char sign = term.at(i);
-            if (sign != APPLY && held < TYPE_ROOM) {
-                readType(sign, types[held]);
-                held++;
-            } else if (held >= 2) {
+            if (sign == APPLY && held >= 2) {
                 held--;
                 int outcome = unifier.detachInto(types[held - 1], types[held], types[held - 1]);
                 if (outcome != DONE) {
                     return outcome;
                 }
+            } else if (sign != APPLY && held < TYPE_ROOM) {
+                readType(sign, types[held]);
+                held++;
             }
         }
         return list.enter(types[0], NONE, NONE);
