@@ -1,4 +1,4 @@
-/** What the description says beside the promises: formulas, the list, texts, the matrix, combinators, rows, details, codes. */
+/** The boundary cases of the description: formulas, the list, texts, the matrix, combinators, rows, details, error codes. */
 public final class DescriptionBoundariesTest {
     public static void main(String[] args) {
         Checks.run(DescriptionBoundariesTest.class);
@@ -55,10 +55,10 @@ public final class DescriptionBoundariesTest {
     }
 
     static void list_noTwoFormulasAreVariants() {
-        Bench x = new Bench();
-        x.fillWithTypes(60);
         for (int i = 0; i < 60; i++) {
-            for (int k = 0; k < i && x.calls() < Bench.MOST_CALLS - 2; k += 7) {
+            Bench x = new Bench();
+            x.fillWithTypes(60);
+            for (int k = 0; k < i; k++) {
                 Checks.due(x.isInstance(i, k) * x.isInstance(k, i), 0);
             }
         }
@@ -282,7 +282,7 @@ public final class DescriptionBoundariesTest {
     }
 
     static void errorCodes_refusalsOfANewObjectLeaveItNew() {
-        Checks.same(Checks::nothing, x -> {
+        Checks.same(x -> { }, x -> {
             x.append(32);
             x.addAxiom();
             x.detach(0, 0);

@@ -7,12 +7,11 @@ import java.util.Random;
 import java.util.Set;
 
 /**
- * Long runs of chosen calls, with the same seeds every time, each call answered by the class and by a slow model that is
+ * Runs of 512 chosen calls, with the same seeds every time, each call answered by the class and by a slow model that is
  * written in another way: trees and recursion, substitutions in maps, real Java arrays for rows.
  */
 public final class ModelRunsTest {
-    private static final int RUNS = 1500;
-    private static final int DEEDS = 60;
+    private static final int RUNS = 10000;
     private static final String[] AXIOMS = {
         "CpCqp", "CCpCqrCCpqCpr", "CCpqCCqrCpr", "CCqrCCpqCpr", "CpCCpqq", "CCpCqrCqCpr", "CCpCpqCpq", "CCCpqpp", "Cpp",
         "CCCpqrCCrpCsp", "CCCCpqrsCCqsCps", "p", "CCppq", "CpCqCrs", "CCpqr", "CaCbCcCdCeCfCgCha", "CaCbCcCdCeCfCgChi",
@@ -25,8 +24,9 @@ public final class ModelRunsTest {
 
     private static int wrong = 0;
 
-    private CondensedDetachment tested;
+    private Bench tested;
     private Model model;
+    private String comparedOutput = "";
     private Random random;
     private StringBuilder trace;
     private boolean asking;
@@ -47,14 +47,18 @@ public final class ModelRunsTest {
     private void go(int number) {
         run = number;
         random = new Random(number * 7919L);
-        tested = new CondensedDetachment();
+        tested = new Bench();
         model = new Model();
         trace = new StringBuilder();
         int before = wrong;
         int flavour = pick(6);
-        prepare(flavour);
-        for (int deed = 0; deed < DEEDS && wrong == before; deed++) {
-            step(flavour);
+        try {
+            prepare(flavour);
+            while (wrong == before) {
+                step(flavour);
+            }
+        } catch (Bench.NoCallsLeft end) {
+            trace.setLength(0);
         }
     }
 
@@ -69,11 +73,21 @@ public final class ModelRunsTest {
             type = pick(3) == 0 ? pick(3) : type;
             due("allocate(" + row + ", " + type + ", 80)", tested.allocate(row, type, 80), model.allocate(row, type, 80));
         }
-        for (int i = 0; i < 150 && flavour == 5 && model.formulas.size() < 56 + pick(5); i++) {
-            type(tree(4, 3));
-            due("addAxiom()", tested.addAxiom(), model.addAxiom());
+        if (flavour == 5) {
+            fillWithTypes(54 + pick(7));
         }
         compareState();
+    }
+
+    private void fillWithTypes(int size) {
+        for (char letter : "KSBCWI".toCharArray()) {
+            type("" + letter);
+            due("addType()", tested.addType(), model.addType());
+        }
+        for (int i = 0; i < 3 && model.formulas.size() < size; i++) {
+            due("round(39)", tested.round(39), model.round(39));
+        }
+        due("cut(" + size + ")", tested.cut(size), model.cut(size));
     }
 
     private void due(String call, long got, long want) {
@@ -244,27 +258,50 @@ public final class ModelRunsTest {
         }
     }
 
-    /** What can be asked without changing anything. */
+    /** What can be asked without changing anything; the output in full only if it is another one than before. */
     private void compareState() {
         asking = true;
         due("listSize()", tested.listSize(), model.formulas.size());
         due("outputLength()", tested.outputLength(), model.output.length());
-        for (int i = -1; i <= model.output.length(); i++) {
-            long want = i >= 0 && i < model.output.length() ? model.output.charAt(i) : -1;
-            due("outputAt(" + i + ")", tested.outputAt(i), want);
+        if (!comparedOutput.equals(model.output)) {
+            comparedOutput = model.output;
+            for (int i = -1; i <= model.output.length(); i++) {
+                long want = i >= 0 && i < model.output.length() ? model.output.charAt(i) : -1;
+                due("outputAt(" + i + ")", tested.outputAt(i), want);
+            }
         }
-        int formula = formula();
-        boolean known = model.has(formula);
-        due("formulaSize(" + formula + ")", tested.formulaSize(formula), known ? model.formulas.get(formula).length() : -1);
-        due("variableCount(" + formula + ")", tested.variableCount(formula), known ? Model.variables(model.formulas.get(formula)) : -1);
-        due("majorOf(" + formula + ")", tested.majorOf(formula), known ? model.majors.get(formula) : -1);
-        due("minorOf(" + formula + ")", tested.minorOf(formula), known ? model.minors.get(formula) : -1);
-        due("proofDepth(" + formula + ")", tested.proofDepth(formula), known ? model.depth(formula) : -1);
-        due("proofSize(" + formula + ")", tested.proofSize(formula), known ? model.signs(formula) : -1);
+        askOne();
+        askOne();
         int row = pick(3);
         int index = pick(80);
         due("rowElement(" + row + ", " + index + ")", tested.rowElement(row, index), model.rowElement(row, index));
         asking = false;
+    }
+
+    private void askOne() {
+        int formula = formula();
+        boolean known = model.has(formula);
+        switch (pick(6)) {
+            case 0:
+                due("formulaSize(" + formula + ")", tested.formulaSize(formula), known ? model.formulas.get(formula).length() : -1);
+                break;
+            case 1:
+                due("variableCount(" + formula + ")", tested.variableCount(formula),
+                    known ? Model.variables(model.formulas.get(formula)) : -1);
+                break;
+            case 2:
+                due("majorOf(" + formula + ")", tested.majorOf(formula), known ? model.majors.get(formula) : -1);
+                break;
+            case 3:
+                due("minorOf(" + formula + ")", tested.minorOf(formula), known ? model.minors.get(formula) : -1);
+                break;
+            case 4:
+                due("proofDepth(" + formula + ")", tested.proofDepth(formula), known ? model.depth(formula) : -1);
+                break;
+            default:
+                due("proofSize(" + formula + ")", tested.proofSize(formula), known ? model.signs(formula) : -1);
+                break;
+        }
     }
 
     private void type(String text) {

@@ -21,85 +21,31 @@ public final class PromisesTest {
         }
     }
 
-    private static String outputOf(CondensedDetachment x) {
-        StringBuilder text = new StringBuilder();
-        for (int i = 0; i < x.outputLength(); i++) {
-            text.append((char) x.outputAt(i));
-        }
-        return text.toString();
-    }
-
-    private static void dueOutput(String what, CondensedDetachment x, String want) {
-        String got = outputOf(x);
+    private static void dueOutput(String what, Bench x, String want) {
+        String got = x.output();
         if (!want.equals(got)) {
             wrong++;
             System.out.println("promise " + promise + ": " + what + " wrote " + got + ", due is " + want);
         }
     }
 
-    private static void dueFormula(CondensedDetachment x, int formula, String want) {
+    private static void dueFormula(Bench x, int formula, String want) {
         due("writeFormula(" + formula + ")", x.writeFormula(formula), want.length());
         dueOutput("writeFormula(" + formula + ")", x, want);
     }
 
-    private static void type(CondensedDetachment x, String text) {
-        for (int i = 0; i < text.length(); i++) {
-            x.append(text.charAt(i));
-        }
-    }
-
-    private static int axiom(CondensedDetachment x, String text) {
-        type(x, text);
-        return x.addAxiom();
-    }
-
-    private static int proof(CondensedDetachment x, String text) {
-        type(x, text);
-        return x.prove();
-    }
-
-    private static int typeOf(CondensedDetachment x, String text) {
-        type(x, text);
-        return x.addType();
-    }
-
-    private static int reduced(CondensedDetachment x, String text, int steps) {
-        type(x, text);
-        return x.reduceTerm(steps);
-    }
-
-    private static CondensedDetachment with(String... axioms) {
-        CondensedDetachment x = new CondensedDetachment();
+    private static Bench with(String... axioms) {
+        Bench x = new Bench();
         for (int i = 0; i < axioms.length; i++) {
-            due("addAxiom() of " + axioms[i], axiom(x, axioms[i]), i);
+            due("addAxiom() of " + axioms[i], x.axiom(axioms[i]), i);
         }
         return x;
     }
 
-    /** Adds axioms that are no variants of each other until the list has a size. */
-    private static void fill(CondensedDetachment x, int size) {
-        for (int k = 2; k <= 19 && x.listSize() < size; k++) {
-            axiom(x, "C".repeat(k) + "a".repeat(k + 1));
-        }
-        for (int k = 0; k <= 19 && x.listSize() < size; k++) {
-            axiom(x, "Ca".repeat(k) + "a");
-        }
-        for (int k = 1; k <= 19 && x.listSize() < size; k++) {
-            axiom(x, "Ca".repeat(k) + "b");
-        }
-        for (int k = 2; k <= 19 && x.listSize() < size; k++) {
-            axiom(x, "C".repeat(k) + "a".repeat(k) + "b");
-        }
+    /** Appends formulas until the list has a size; row 2 is used. */
+    private static void fill(Bench x, int size) {
+        x.fillFromRow(size);
         due("listSize() after filling", x.listSize(), size);
-    }
-
-    /** An implication with new variables before a formula that has no variable but z. */
-    private static String chain(int length, String last) {
-        StringBuilder text = new StringBuilder();
-        for (int i = 0; i < length; i++) {
-            text.append('C').append((char) ('a' + i));
-        }
-        return text + last;
     }
 
     public static void main(String[] args) {
@@ -116,7 +62,6 @@ public final class PromisesTest {
         unifications();
         rounds();
         shortestProofs();
-        shortestLimit();
         tables();
         valuations();
         types();
@@ -133,7 +78,7 @@ public final class PromisesTest {
 
     private static void texts() {
         promise = 1;
-        CondensedDetachment x = new CondensedDetachment();
+        Bench x = new Bench();
         due("listSize()", x.listSize(), 0);
         due("outputLength()", x.outputLength(), 0);
         due("clearText()", x.clearText(), 0);
@@ -162,40 +107,41 @@ public final class PromisesTest {
 
     private static void axioms() {
         promise = 4;
-        CondensedDetachment x = with("CpCqp", "CpCqq", "z");
-        due("a variant", axiom(x, "CqCpq"), 0);
-        due("a variant with the letters in reverse", axiom(x, "CzCaa"), 1);
-        due("a variable", axiom(x, "a"), 2);
+        Bench x = with("CpCqp", "CpCqq", "z");
+        due("a variant", x.axiom("CqCpq"), 0);
+        due("a variant with the letters in reverse", x.axiom("CzCaa"), 1);
+        due("a variable", x.axiom("a"), 2);
         due("listSize()", x.listSize(), 3);
         dueFormula(x, 0, "CaCba");
         dueFormula(x, 2, "a");
-        due("no text", axiom(x, ""), -100);
-        due("Cp", axiom(x, "Cp"), -102);
-        due("CpqC", axiom(x, "CpqC"), -103);
-        due("pp", axiom(x, "pp"), -101);
-        due("Cp1q", axiom(x, "Cp1q"), -102);
-        due("A", axiom(x, "A"), -100);
-        due("80 signs C", axiom(x, "C".repeat(80)), -180);
-        due("39 letters", axiom(x, "C".repeat(19) + "a".repeat(20)), 3);
-        due("41 letters", axiom(x, "C".repeat(20) + "a".repeat(21)), LARGE);
-        due("41 letters and one more", axiom(x, "C".repeat(20) + "a".repeat(22)), -141);
-        due("12 variables", axiom(x, chain(11, "l")), 4);
-        due("13 variables", axiom(x, chain(12, "m")), LARGE);
-        due("26 variables, too many letters too", axiom(x, chain(25, "z")), LARGE);
+        due("no text", x.axiom(""), -100);
+        due("Cp", x.axiom("Cp"), -102);
+        due("CpqC", x.axiom("CpqC"), -103);
+        due("pp", x.axiom("pp"), -101);
+        due("Cp1q", x.axiom("Cp1q"), -102);
+        due("A", x.axiom("A"), -100);
+        due("80 signs C", x.axiom("C".repeat(80)), -180);
+        due("39 letters", x.axiom("C".repeat(19) + "a".repeat(20)), 3);
+        due("41 letters", x.axiom("C".repeat(20) + "a".repeat(21)), LARGE);
+        due("41 letters and one more", x.axiom("C".repeat(20) + "a".repeat(22)), -141);
+        due("12 variables", x.axiom(Checks.chain(11, "l")), 4);
+        due("13 variables", x.axiom(Checks.chain(12, "m")), LARGE);
+        due("26 variables, too many letters too", x.axiom(Checks.chain(25, "z")), LARGE);
         due("the text is empty after an error", x.clearText(), 0);
         due("listSize()", x.listSize(), 5);
+        x = with("CpCqp");
         fill(x, 60);
-        due("a new formula for a full list", axiom(x, "CCabCcd"), FULL);
-        due("an old formula for a full list", axiom(x, "CxCyx"), 0);
-        due("a formula that is too large for a full list", axiom(x, chain(12, "m")), LARGE);
-        due("an error for a full list", axiom(x, "C"), -101);
+        due("a new formula for a full list", x.axiom("CCabCcd"), FULL);
+        due("an old formula for a full list", x.axiom("CxCyx"), 0);
+        due("a formula that is too large for a full list", x.axiom(Checks.chain(12, "m")), LARGE);
+        due("an error for a full list", x.axiom("C"), -101);
         due("the text is empty after FULL", x.clearText(), 0);
         due("listSize()", x.listSize(), 60);
     }
 
     private static void detachments() {
         promise = 5;
-        CondensedDetachment x = with("CpCqp", "p", "CCpCpqCpq");
+        Bench x = with("CpCqp", "p", "CCpCpqCpq");
         due("detach(0, 0)", x.detach(0, 0), 3);
         dueFormula(x, 3, "CaCbCcb");
         due("detach(3, 3)", x.detach(3, 3), 0);
@@ -206,7 +152,8 @@ public final class PromisesTest {
             due("detach(1, " + missing + ")", x.detach(1, missing), NO_SUCH);
         }
         due("listSize()", x.listSize(), 4);
-        x = with("CaCaa", "C".repeat(10) + "a".repeat(11), "C".repeat(9) + "a".repeat(10), "CaCbCca", "CaCbCcCda", chain(9, "z"));
+        x = with("CaCaa", "C".repeat(10) + "a".repeat(11), "C".repeat(9) + "a".repeat(10), "CaCbCca", "CaCbCcCda",
+            Checks.chain(9, "z"));
         due("a result of 43 letters", x.detach(0, 1), LARGE);
         due("a result of 39 letters", x.detach(0, 2), 6);
         due("formulaSize(6)", x.formulaSize(6), 39);
@@ -216,68 +163,62 @@ public final class PromisesTest {
         x = with("CpCqp", "p", "CaCaa", "C".repeat(10) + "a".repeat(11));
         fill(x, 60);
         due("a new result for a full list", x.detach(0, 0), FULL);
-        due("an old result for a full list", x.detach(2, 1), 4 + indexOf(x, 4, "Caa"));
+        due("an old result for a full list", x.detach(2, 1), 4);
         due("a result that is too large for a full list", x.detach(2, 3), LARGE);
         due("no result for a full list", x.detach(1, 1), NONE);
     }
 
-    /** How far behind a number the list has a formula. */
-    private static int indexOf(CondensedDetachment x, int from, String formula) {
-        for (int i = from; i < x.listSize(); i++) {
-            x.writeFormula(i);
-            if (formula.equals(outputOf(x))) {
-                return i - from;
-            }
-        }
-        return -1000;
-    }
-
     private static void proofs() {
         promise = 6;
-        CondensedDetachment x = new CondensedDetachment();
-        due("1 without formulas", proof(x, "1"), -100);
+        Bench x = new Bench();
+        due("1 without formulas", x.proof("1"), -100);
         x = with("CpCqp");
-        due("1", proof(x, "1"), 0);
+        due("1", x.proof("1"), 0);
         due("listSize()", x.listSize(), 1);
-        due("2", proof(x, "2"), -100);
-        due("no text", proof(x, ""), -100);
-        due("D", proof(x, "D"), -101);
-        due("DD11D12, though D11 would enter 2", proof(x, "DD11D12"), -106);
-        due("11", proof(x, "11"), -101);
-        due("D1C", proof(x, "D1C"), -102);
+        due("2", x.proof("2"), -100);
+        due("no text", x.proof(""), -100);
+        due("D", x.proof("D"), -101);
+        due("DD11D12, though D11 would enter 2", x.proof("DD11D12"), -106);
+        due("11", x.proof("11"), -101);
+        due("D1C", x.proof("D1C"), -102);
         due("the text is empty after an error", x.clearText(), 0);
-        due("DD11D1D11", proof(x, "DD11D1D11"), 0);
+        due("DD11D1D11", x.proof("DD11D1D11"), 0);
         due("listSize()", x.listSize(), 3);
         dueFormula(x, 1, "CaCbCcb");
         dueFormula(x, 2, "CaCbCcCdc");
         due("majorOf(2)", x.majorOf(2), 0);
         due("minorOf(2)", x.minorOf(2), 1);
         due("cut(1)", x.cut(1), 2);
-        due("a variable", axiom(x, "p"), 1);
-        due("CaCaa", axiom(x, "CaCaa"), 2);
-        due("C..aa", axiom(x, "C".repeat(10) + "a".repeat(11)), 3);
-        due("D2 after a new D11", proof(x, "D2D11"), NONE);
+        due("a variable", x.axiom("p"), 1);
+        due("CaCaa", x.axiom("CaCaa"), 2);
+        due("C..aa", x.axiom("C".repeat(10) + "a".repeat(11)), 3);
+        due("D2 after a new D11", x.proof("D2D11"), NONE);
         due("listSize() after NONE", x.listSize(), 4);
-        due("D34 after a new D11", proof(x, "DD11D34"), LARGE);
+        due("D34 after a new D11", x.proof("DD11D34"), LARGE);
         due("listSize() after TOO_LARGE", x.listSize(), 4);
-        due("NONE before TOO_LARGE", proof(x, "DD21D34"), NONE);
-        due("TOO_LARGE before NONE", proof(x, "DD34D21"), LARGE);
+        due("NONE before TOO_LARGE", x.proof("DD21D34"), NONE);
+        due("TOO_LARGE before NONE", x.proof("DD34D21"), LARGE);
+        fullProofs();
+    }
+
+    private static void fullProofs() {
+        Bench x = with("CpCqp");
         fill(x, 59);
-        due("two new results for one place", proof(x, "D1D11"), FULL);
+        due("two new results for one place", x.proof("D1D11"), FULL);
         due("listSize() after FULL", x.listSize(), 59);
-        due("one new result for one place", proof(x, "D11"), 59);
-        due("old results for a full list", proof(x, "DD11D11"), 0);
-        due("a new result for a full list", proof(x, "D1D11"), FULL);
-        due("80 signs D", proof(x, "D".repeat(80)), -180);
+        due("one new result for one place", x.proof("D11"), 59);
+        due("old results for a full list", x.proof("DD11D11"), 0);
+        due("a new result for a full list", x.proof("D1D11"), FULL);
+        due("80 signs D", x.proof("D".repeat(80)), -180);
         due("the text is empty", x.clearText(), 0);
         due("listSize()", x.listSize(), 60);
-        due("9", proof(x, "9"), 8);
-        due("0", proof(x, "0"), -100);
+        due("9", x.proof("9"), 8);
+        due("0", x.proof("0"), -100);
     }
 
     private static void cuts() {
         promise = 7;
-        CondensedDetachment x = with("CpCqp", "Cpp", "p");
+        Bench x = with("CpCqp", "Cpp", "p");
         due("cut(4)", x.cut(4), BAD);
         due("cut(-1)", x.cut(-1), BAD);
         due("cut(MIN)", x.cut(Integer.MIN_VALUE), BAD);
@@ -286,17 +227,17 @@ public final class PromisesTest {
         promise = 8;
         due("listSize()", x.listSize(), 1);
         due("formulaSize(1)", x.formulaSize(1), NO_SUCH);
-        due("a formula that was removed is new", axiom(x, "p"), 1);
+        due("a formula that was removed is new", x.axiom("p"), 1);
         due("listSize()", x.listSize(), 2);
         due("cut(0)", x.cut(0), 2);
         due("listSize()", x.listSize(), 0);
         due("cut(0) of nothing", x.cut(0), 0);
         due("cut(1) of nothing", x.cut(1), BAD);
-        due("a new first formula", axiom(x, "Cpq"), 0);
+        due("a new first formula", x.axiom("Cpq"), 0);
     }
 
     private static void facts() {
-        CondensedDetachment x = with("CpCqp", "CCpCqrCCpqCpr", "z");
+        Bench x = with("CpCqp", "CCpCqrCCpqCpr", "z");
         for (int missing : NO_FORMULAS) {
             promise = 9;
             due("formulaSize(" + missing + ")", x.formulaSize(missing), NO_SUCH);
@@ -333,9 +274,9 @@ public final class PromisesTest {
 
     private static void proofFacts() {
         promise = 13;
-        CondensedDetachment x = with("CpCqp", "CCpCqrCCpqCpr");
-        due("DD211", proof(x, "DD211"), 3);
-        due("a derived formula as an axiom", axiom(x, "Cxx"), 3);
+        Bench x = with("CpCqp", "CCpCqrCCpqCpr");
+        due("DD211", x.proof("DD211"), 3);
+        due("a derived formula as an axiom", x.axiom("Cxx"), 3);
         due("majorOf(3)", x.majorOf(3), 2);
         due("an axiom as a result", x.detach(3, 0), 0);
         due("majorOf(0)", x.majorOf(0), NONE);
@@ -356,11 +297,11 @@ public final class PromisesTest {
     private static void longProofs() {
         promise = 14;
         String[] ends = {"Czz", "CCzzz", "CzCzz", "CCzzCzz", "CCCzzzz"};
-        CondensedDetachment x = new CondensedDetachment();
+        Bench x = new Bench();
         long size = 0;
         int last = 0;
         for (int k = 0; k < ends.length; k++) {
-            int number = axiom(x, chain(11, ends[k]));
+            int number = x.axiom(Checks.chain(11, ends[k]));
             due("a chain", number, 12 * k);
             int minor = k == 0 ? number : last;
             for (int i = 0; i < 11; i++) {
@@ -385,17 +326,17 @@ public final class PromisesTest {
 
     private static void outputs() {
         promise = 15;
-        CondensedDetachment x = with("CyCxy", chain(11, "l"), chain(11, "Caa"));
+        Bench x = with("CyCxy", Checks.chain(11, "l"), Checks.chain(11, "Caa"));
         due("writeFormula(0)", x.writeFormula(0), 5);
         dueOutput("writeFormula(0)", x, "CaCba");
         due("writeFormula(3)", x.writeFormula(3), NO_SUCH);
         due("writeFormula(-1)", x.writeFormula(-1), NO_SUCH);
         dueOutput("no formula", x, "CaCba");
-        dueFormula(x, 1, chain(11, "l"));
+        dueFormula(x, 1, Checks.chain(11, "l"));
         promise = 16;
         due("writeProof(0)", x.writeProof(0), 1);
         dueOutput("writeProof(0)", x, "1");
-        due("D1D1D11", proof(x, "D1D1D11"), 5);
+        due("D1D1D11", x.proof("D1D1D11"), 5);
         due("writeProof(5)", x.writeProof(5), 7);
         dueOutput("writeProof(5)", x, "D1D1D11");
         due("writeProof(6)", x.writeProof(6), NO_SUCH);
@@ -415,7 +356,7 @@ public final class PromisesTest {
     }
 
     private static void axiomsBehindTheNinth() {
-        CondensedDetachment x = with("Caa", "Cab", "CaCaa", "CaCab", "CaCbb", "CaCbc", "CCaaa", "CCaab", "CCabb", "CaCba");
+        Bench x = with("Caa", "Cab", "CaCaa", "CaCab", "CaCbb", "CaCbc", "CCaaa", "CCaab", "CCabb", "CaCba");
         due("writeProof(8)", x.writeProof(8), 1);
         dueOutput("writeProof(8)", x, "9");
         due("writeProof(9)", x.writeProof(9), LARGE);
@@ -429,7 +370,7 @@ public final class PromisesTest {
     }
 
     private static void proofsOfAHundredSigns() {
-        CondensedDetachment x = with(chain(11, "Czz"), chain(11, "CCzzz"));
+        Bench x = with(Checks.chain(11, "Czz"), Checks.chain(11, "CCzzz"));
         int[] minors = {0, 2, 3, 4, 5};
         int major = 0;
         for (int i = 0; i < 5; i++) {
@@ -452,7 +393,7 @@ public final class PromisesTest {
 
     private static void instances() {
         promise = 19;
-        CondensedDetachment x = with("Caa", "Cab", "CCabCab", "CCabCba", "a", "CaCba", "CCaaCbCaa");
+        Bench x = with("Caa", "Cab", "CCabCab", "CCabCba", "a", "CaCba", "CCaaCbCaa");
         due("Caa of Cab", x.isInstance(0, 1), 1);
         due("Cab of Caa", x.isInstance(1, 0), 0);
         due("CCabCab of Caa", x.isInstance(2, 0), 1);
@@ -478,7 +419,7 @@ public final class PromisesTest {
 
     private static void unifications() {
         promise = 21;
-        CondensedDetachment x = with("CaCba", "CCabc", "Caa", "CaCab", "a", "CCaab",
+        Bench x = with("CaCba", "CCabc", "Caa", "CaCab", "a", "CCaab",
             "CaCCaaCbCCbbCcCCccCdCCdde", "CaCbCbCcCcCdCdCee", "CaCbCcCdCeCfCgh", "CCabCCcdCCefCCghCiCjk", "CCabCCcdCCefCCghCCijk");
         due("unify(0, 1)", x.unify(0, 1), 9);
         dueOutput("unify(0, 1)", x, "CCabCcCab");
@@ -507,7 +448,7 @@ public final class PromisesTest {
 
     private static void rounds() {
         promise = 22;
-        CondensedDetachment x = new CondensedDetachment();
+        Bench x = new Bench();
         due("round(39) of nothing", x.round(39), 0);
         x = with("CpCqp");
         due("round(0)", x.round(0), BAD);
@@ -538,32 +479,23 @@ public final class PromisesTest {
     }
 
     private static void fullRounds() {
-        CondensedDetachment x = with("CaCbCcb", "CaCba");
+        Bench x = with("p");
         fill(x, 59);
-        due("a list with a variable, of which all are instances", indexOf(x, 0, "a") >= 0 ? 1 : 0, 1);
-        due("a round that finds instances only", x.round(39), 0);
-        x = new CondensedDetachment();
-        due("CaCba", axiom(x, "CaCba"), 0);
-        for (int k = 2; k <= 15; k++) {
-            axiom(x, "C".repeat(k) + "a".repeat(k + 1));
-            axiom(x, "C".repeat(k) + "a".repeat(k) + "b");
-            axiom(x, "C".repeat(k) + "ab".repeat(k).substring(0, k) + "c");
-            axiom(x, "CCaa" + "C".repeat(k) + "a".repeat(k + 1));
-        }
-        int before = x.listSize();
-        due("listSize()", before, 57);
+        due("a list with a variable, of which all are instances", x.round(39), 0);
+        x = new Bench();
+        x.fillWithTypes(57);
         due("a round that ends early", x.round(39), 3);
-        dueFormula(x, 57, "CaCbCcb");
-        dueFormula(x, 58, "CaCCbbb");
-        due("minorOf(59)", x.minorOf(59), 2);
+        dueFormula(x, 57, "CaCbCcCdCed");
+        dueFormula(x, 58, "CaCbCcCCdCefCCdeCdf");
+        due("minorOf(59)", x.minorOf(59), 29);
         due("a round that begins with 60 formulas", x.round(39), 0);
         due("round(0) for a full list", x.round(0), BAD);
     }
 
     private static void shortestProofs() {
         promise = 23;
-        CondensedDetachment x = with("CpCqp");
-        due("D1D1D1D11", proof(x, "D1D1D1D11"), 4);
+        Bench x = with("CpCqp");
+        due("D1D1D1D11", x.proof("D1D1D1D11"), 4);
         for (int formula = 0; formula <= 4; formula++) {
             for (int most = 0; most <= 4; most++) {
                 due("shortest(" + formula + ", " + most + ")", x.shortest(formula, most), formula <= most ? formula : NONE);
@@ -573,75 +505,28 @@ public final class PromisesTest {
         due("shortest(-1, 0)", x.shortest(-1, 0), NO_SUCH);
         due("shortest(0, 5)", x.shortest(0, 5), BAD);
         due("shortest(0, -1)", x.shortest(0, -1), BAD);
-        due("an axiom later", axiom(x, "CaCbCcCdCed"), 3);
+        due("an axiom later", x.axiom("CaCbCcCdCed"), 3);
         due("a derived formula is no axiom", x.shortest(3, 4), 3);
-        due("a shorter way by a later axiom", axiom(x, "CaCbCcCdd"), 5);
-        due("an instance of it", axiom(x, "CCaaCbCcCdd"), 6);
+        due("a shorter way by a later axiom", x.axiom("CaCbCcCdd"), 5);
+        due("an instance of it", x.axiom("CCaaCbCcCdd"), 6);
         due("shortest(6, 0)", x.shortest(6, 0), 0);
         due("cut(4)", x.cut(4), 3);
-        due("a later axiom that is more general", axiom(x, "CaCbCcb"), 1);
-        due("Cab", axiom(x, "CaCbCcCdCec"), 4);
+        due("a later axiom that is more general", x.axiom("CaCbCcb"), 1);
+        due("Cab", x.axiom("CaCbCcCdCec"), 4);
         due("shortest(3, 4)", x.shortest(3, 4), 3);
-        due("a variable", axiom(x, "Cab"), 5);
+        due("a variable", x.axiom("Cab"), 5);
         due("all are instances of a variable", x.shortest(3, 4), 0);
         due("shortest(0, 0)", x.shortest(0, 0), 0);
         x = with("CpCqp", "CCpCqrCCpqCpr");
-        due("DD211", proof(x, "DD211"), 3);
+        due("DD211", x.proof("DD211"), 3);
         due("shortest(3, 4)", x.shortest(3, 4), 2);
         due("shortest(3, 1)", x.shortest(3, 1), NONE);
         due("listSize()", x.listSize(), 4);
     }
 
-    /**
-     * Axioms CCaaCag, g more than a, detach from Caa only, and CCCaaaCag from none of these; CaCba detaches from all. So n of
-     * the first and m of the second kind with Caa and CaCba have proofs of at most one D for 3 n + 2 m + 4 formulas.
-     */
-    private static void shortestLimit() {
-        String[] inner = innerFormulas();
-        for (int extra = 0; extra <= 1; extra++) {
-            CondensedDetachment x = with("CaCba", "Caa");
-            for (int i = 0; i < 38; i++) {
-                due("an axiom", axiom(x, "CCaaCa" + inner[i]), i + 2);
-            }
-            due("one more", axiom(x, extra == 0 ? "CCCaaaCaa" : "CCaaCa" + inner[38]), 40);
-            due("D11", proof(x, "D11"), 41);
-            due("shortest(41, 1) of " + (120 + extra), x.shortest(41, 1), extra == 0 ? 1 : LARGE);
-            due("shortest(41, 4) of " + (120 + extra), x.shortest(41, 4), extra == 0 ? 1 : LARGE);
-            due("shortest(41, 0)", x.shortest(41, 0), NONE);
-            due("shortest(40, 4)", x.shortest(40, 4), 0);
-            due("D1D11", proof(x, "D1D11"), 42);
-            due("shortest(42, 1)", x.shortest(42, 1), extra == 0 ? NONE : LARGE);
-            due("shortest(42, 2)", x.shortest(42, 2), LARGE);
-        }
-    }
-
-    /** 39 formulas with the variable a alone, each longer than a. */
-    private static String[] innerFormulas() {
-        String[] formulas = new String[64];
-        formulas[0] = "a";
-        int count = 1;
-        for (int i = 0; i < 8 && count < 64; i++) {
-            for (int k = 0; k < 8 && count < 64; k++) {
-                if (i < count && k < count) {
-                    String next = "C" + formulas[i] + formulas[k];
-                    boolean known = false;
-                    for (int j = 0; j < count; j++) {
-                        known = known || formulas[j].equals(next);
-                    }
-                    if (!known) {
-                        formulas[count++] = next;
-                    }
-                }
-            }
-        }
-        String[] answer = new String[39];
-        System.arraycopy(formulas, 1, answer, 0, 39);
-        return answer;
-    }
-
     private static void tables() {
         promise = 24;
-        CondensedDetachment x = new CondensedDetachment();
+        Bench x = new Bench();
         int[] first = {2, 2, 2, 1, 2, 2, 0, 1, 2};
         for (int i = 0; i < 9; i++) {
             due("the first value of " + i / 3 + " -> " + i % 3, x.setEntry(i / 3, i % 3, first[8 - i]), first[i]);
@@ -681,7 +566,7 @@ public final class PromisesTest {
     }
 
     private static void valuations() {
-        CondensedDetachment x = with("CpCqp", "CCpCpqCpq", "p", chain(7, "z"), chain(8, "z"), "CCCpqpp", chain(7, "Cza"));
+        Bench x = with("CpCqp", "CCpCpqCpq", "p", Checks.chain(7, "z"), Checks.chain(8, "z"), "CCCpqpp", Checks.chain(7, "Cza"));
         promise = 27;
         int[] valid = {1, 0, 0, 0, LARGE, 0, 1};
         for (int i = 0; i < valid.length; i++) {
@@ -729,99 +614,107 @@ public final class PromisesTest {
 
     private static void types() {
         promise = 30;
-        CondensedDetachment x = new CondensedDetachment();
+        Bench x = new Bench();
         String letters = "IKSBCW";
         String[] types = {"Caa", "CaCba", "CCaCbcCCabCac", "CCabCCcaCcb", "CCaCbcCbCac", "CCaCabCab"};
         for (int i = 0; i < 6; i++) {
-            due("addType() of " + letters.charAt(i), typeOf(x, letters.substring(i, i + 1)), i);
+            due("addType() of " + letters.charAt(i), x.termType(letters.substring(i, i + 1)), i);
             dueFormula(x, i, types[i]);
             due("majorOf(" + i + ")", x.majorOf(i), NONE);
         }
-        due("SKK", typeOf(x, "SKK"), 0);
-        due("KI", typeOf(x, "KI"), 6);
+        due("SKK", x.termType("SKK"), 0);
+        due("KI", x.termType("KI"), 6);
         dueFormula(x, 6, "CaCbb");
         due("majorOf(6)", x.majorOf(6), NONE);
-        due("((S)((K)))(K)", typeOf(x, "((S)((K)))(K)"), 0);
-        due("SII", typeOf(x, "SII"), NONE);
-        due("S(S(SS))", typeOf(x, "S(S(SS))"), LARGE);
-        due("TOO_LARGE before NONE", typeOf(x, "K(S(S(SS)))(SII)"), LARGE);
-        due("NONE before TOO_LARGE", typeOf(x, "K(SII)(S(S(SS)))"), NONE);
+        due("((S)((K)))(K)", x.termType("((S)((K)))(K)"), 0);
+        due("SII", x.termType("SII"), NONE);
+        due("S(S(SS))", x.termType("S(S(SS))"), LARGE);
+        due("TOO_LARGE before NONE", x.termType("K(S(S(SS)))(SII)"), LARGE);
+        due("NONE before TOO_LARGE", x.termType("K(SII)(S(S(SS)))"), NONE);
         due("the text is empty after an error", x.clearText(), 0);
-        due("no text", typeOf(x, ""), -100);
-        due("SIIa", typeOf(x, "SIIa"), -103);
-        due("S)", typeOf(x, "S)"), -101);
-        due("S(", typeOf(x, "S("), -102);
-        due("S(K", typeOf(x, "S(K"), -103);
-        due("S()K", typeOf(x, "S()K"), -102);
-        due("8 open", typeOf(x, "((((((((I))))))))"), 0);
-        due("8 open twice", typeOf(x, "((((((((I))))))))((((((((I))))))))"), 0);
-        due("9 open", typeOf(x, "(((((((((I)))))))))"), -108);
-        due("9 open later", typeOf(x, "I(I(I(I(I(I(I(I(I(I"), -117);
-        due("8 levels", typeOf(x, "I(I(I(I(I(I(I(I(II))))))))"), 0);
-        due("80 letters", typeOf(x, "I".repeat(80)), 0);
+        due("no text", x.termType(""), -100);
+        due("SIIa", x.termType("SIIa"), -103);
+        due("S)", x.termType("S)"), -101);
+        due("S(", x.termType("S("), -102);
+        due("S(K", x.termType("S(K"), -103);
+        due("S()K", x.termType("S()K"), -102);
+        due("8 open", x.termType("((((((((I))))))))"), 0);
+        due("8 open twice", x.termType("((((((((I))))))))((((((((I))))))))"), 0);
+        due("9 open", x.termType("(((((((((I)))))))))"), -108);
+        due("9 open later", x.termType("I(I(I(I(I(I(I(I(I(I"), -117);
+        due("8 levels", x.termType("I(I(I(I(I(I(I(I(II))))))))"), 0);
+        due("80 letters", x.termType("I".repeat(80)), 0);
         due("listSize()", x.listSize(), 7);
-        fill(x, 60);
-        due("a new type for a full list", typeOf(x, "BW"), FULL);
-        due("an old type for a full list", typeOf(x, "KI"), 6);
-        due("no type for a full list", typeOf(x, "SII"), NONE);
+        x = new Bench();
+        x.fillWithTypes(60);
+        due("a new type for a full list", x.termType("SK"), FULL);
+        due("an old type for a full list", x.termType("KI"), 11);
+        due("no type for a full list", x.termType("SII"), NONE);
         due("the text is empty after FULL", x.clearText(), 0);
     }
 
     private static void reductions() {
         promise = 31;
-        CondensedDetachment x = new CondensedDetachment();
+        Bench x = new Bench();
         String[][] steps = {{"IS", "S"}, {"KSI", "S"}, {"SKBW", "KW(BW)"}, {"BSKI", "S(KI)"}, {"CSKI", "SIK"}, {"WSK", "SKK"},
             {"S(II)", "SI"}, {"K(II)(II)", "II"}, {"S(KII)(II)", "SI(II)"}, {"IISI", "ISI"}, {"B(KI)(SK)(WI)S", "KI(SK(WI))S"},
             {"S(K(S))(((I)))", null}};
         for (String[] step : steps) {
             boolean reduces = step[1] != null;
-            due(step[0] + " in one step", reduced(x, step[0], 1), reduces ? 1 : 0);
+            due(step[0] + " in one step", x.reduced(step[0], 1), reduces ? 1 : 0);
             dueOutput(step[0] + " in one step", x, reduces ? step[1] : "S(KS)I");
         }
-        due("no step", reduced(x, "((I)((I)(S)))", 0), 0);
+        due("no step", x.reduced("((I)((I)(S)))", 0), 0);
         dueOutput("no step", x, "I(IS)");
-        due("WWW", reduced(x, "WWW", 50), 50);
+        due("WWW", x.reduced("WWW", 50), 50);
         dueOutput("WWW", x, "WWW");
-        due("the end", reduced(x, "S(KS)KBCI", 50), 4);
+        due("the end", x.reduced("S(KS)KBCI", 50), 4);
         dueOutput("the end", x, "B(CI)");
-        limitsOfReduction(x);
-        due("no text", reduced(x, "", 1), -100);
-        due("SKa", reduced(x, "SKa", 1), -102);
-        due("(S", reduced(x, "(S", 1), -102);
-        due("9 open", reduced(x, "K(((((((((I)))))))))", 1), -109);
+        limitsOfReduction();
+        depthsOfReduction();
+        x = new Bench();
+        due("no text", x.reduced("", 1), -100);
+        due("SKa", x.reduced("SKa", 1), -102);
+        due("(S", x.reduced("(S", 1), -102);
+        due("9 open", x.reduced("K(((((((((I)))))))))", 1), -109);
         due("the text is empty after an error", x.clearText(), 0);
-        due("steps -1", reduced(x, "SK", -1), BAD);
+        due("steps -1", x.reduced("SK", -1), BAD);
         due("the text is empty after BAD_VALUE", x.clearText(), 0);
-        due("steps 51", reduced(x, "a", 51), BAD);
+        due("steps 51", x.reduced("a", 51), BAD);
         due("the text is empty after BAD_VALUE", x.clearText(), 0);
     }
 
-    private static void limitsOfReduction(CondensedDetachment x) {
-        due("80 letters, no step", reduced(x, "K".repeat(80), 0), 0);
+    private static void limitsOfReduction() {
+        Bench x = new Bench();
+        due("80 letters, no step", x.reduced("K".repeat(80), 0), 0);
         due("outputLength()", x.outputLength(), 80);
-        due("a step to 40 letters", reduced(x, "I" + "S".repeat(40), 1), 1);
+        due("a step to 40 letters", x.reduced("I" + "S".repeat(40), 1), 1);
         dueOutput("a step to 40 letters", x, "S".repeat(40));
-        due("a step to 41 letters", reduced(x, "I" + "S".repeat(41), 1), LARGE);
+        due("a step to 41 letters", x.reduced("I" + "S".repeat(41), 1), LARGE);
         dueOutput("after TOO_LARGE", x, "S".repeat(40));
         due("the text is empty after TOO_LARGE", x.clearText(), 0);
         String fifty = "(" + "S".repeat(50) + ")";
-        due("a step from 52 letters to 1", reduced(x, "KI" + fifty, 50), 1);
+        due("a step from 52 letters to 1", x.reduced("KI" + fifty, 50), 1);
         dueOutput("a step from 52 letters to 1", x, "I");
+    }
+
+    private static void depthsOfReduction() {
+        Bench x = new Bench();
         String seven = "S(SSS)(SSS)";
         String fifteen = "S(" + seven + ")(" + seven + ")";
         String fortyOne = "S(S(" + fifteen + ")(" + fifteen + "))(S(SSS)(SS(SSS)))";
-        due("41 letters of which none reduces", reduced(x, fortyOne, 50), 0);
+        due("41 letters of which none reduces", x.reduced(fortyOne, 50), 0);
         dueOutput("41 letters of which none reduces", x, fortyOne);
         String deep = "BS(".repeat(8) + "S" + ")".repeat(8);
-        due("more than 8 open in the output", reduced(x, deep + "I", 50), 8);
+        due("more than 8 open in the output", x.reduced(deep + "I", 50), 8);
         dueOutput("more than 8 open in the output", x, "S(".repeat(8) + "SI" + ")".repeat(8));
-        due("twice as deep", reduced(x, "WB(" + deep.substring(3, deep.length() - 1) + ")I", 50), 16);
+        due("twice as deep", x.reduced("WB(" + deep.substring(3, deep.length() - 1) + ")I", 50), 16);
         dueOutput("twice as deep", x, "S(".repeat(15) + "SI" + ")".repeat(15));
     }
 
     private static void rowsAlone() {
         promise = 32;
-        CondensedDetachment x = new CondensedDetachment();
+        Bench x = new Bench();
         due("allocate(3, 9, 99)", x.allocate(3, 9, 99), NO_SUCH);
         due("allocate(-1, 0, 1)", x.allocate(-1, 0, 1), NO_SUCH);
         due("allocate(0, 3, -1)", x.allocate(0, 3, -1), BAD);
@@ -850,7 +743,7 @@ public final class PromisesTest {
         due("rowElement(1, -1)", x.rowElement(1, -1), Long.MIN_VALUE);
         due("rowElement(3, 0)", x.rowElement(3, 0), Long.MIN_VALUE);
         due("rowElement(-1, 0)", x.rowElement(-1, 0), Long.MIN_VALUE);
-        due("rowElement of a missing row", new CondensedDetachment().rowElement(0, 0), Long.MIN_VALUE);
+        due("rowElement of a missing row", new Bench().rowElement(0, 0), Long.MIN_VALUE);
         promise = 32;
         due("an error leaves the row", x.allocate(1, 1, 81), BAD);
         due("rowElement(1, 1)", x.rowElement(1, 1), 65535);
@@ -863,7 +756,7 @@ public final class PromisesTest {
 
     private static void copies() {
         promise = 35;
-        CondensedDetachment x = new CondensedDetachment();
+        Bench x = new Bench();
         due("no row", x.copyElements(0, 0, 3, 0, 0), NO_SUCH);
         due("no row", x.copyElements(-1, 0, 0, 0, 0), NO_SUCH);
         x.allocate(0, 2, 5);
@@ -899,7 +792,7 @@ public final class PromisesTest {
 
     private static void rowsAndTexts() {
         promise = 36;
-        CondensedDetachment x = with("CpCqp");
+        Bench x = with("CpCqp");
         due("storeOutput(3, 0)", x.storeOutput(3, 0), NO_SUCH);
         due("storeOutput(-1, 0)", x.storeOutput(-1, 0), NO_SUCH);
         due("storeOutput(0, 0)", x.storeOutput(0, 0), MISSING);
@@ -938,7 +831,7 @@ public final class PromisesTest {
     }
 
     private static void loadsIntoFullTexts() {
-        CondensedDetachment x = new CondensedDetachment();
+        Bench x = new Bench();
         x.allocate(2, 2, 80);
         for (int i = 0; i < 80; i++) {
             x.put(2, i, 'a');
@@ -958,7 +851,7 @@ public final class PromisesTest {
 
     private static void examples() {
         promise = 0;
-        CondensedDetachment x = with("CpCqp");
+        Bench x = with("CpCqp");
         due("detach(0, 0)", x.detach(0, 0), 1);
         due("writeFormula(1)", x.writeFormula(1), 7);
         due("outputAt(1)", x.outputAt(1), 97);
@@ -966,18 +859,18 @@ public final class PromisesTest {
         due("proofSize(1)", x.proofSize(1), 1);
         due("isInstance(0, 1)", x.isInstance(0, 1), 0);
         due("moreGeneral(0)", x.moreGeneral(0), NONE);
-        x = new CondensedDetachment();
-        due("K", typeOf(x, "K"), 0);
-        due("S", typeOf(x, "S"), 1);
-        due("D21", proof(x, "D21"), 2);
+        x = new Bench();
+        due("K", x.termType("K"), 0);
+        due("S", x.termType("S"), 1);
+        due("D21", x.proof("D21"), 2);
         due("formulaSize(2)", x.formulaSize(2), 7);
         due("variableCount(2)", x.variableCount(2), 2);
         due("majorOf(2)", x.majorOf(2), 1);
-        x = new CondensedDetachment();
-        due("SKK", typeOf(x, "SKK"), 0);
+        x = new Bench();
+        due("SKK", x.termType("SKK"), 0);
         due("formulaSize(0)", x.formulaSize(0), 3);
-        due("SII", typeOf(x, "SII"), NONE);
-        due("SKKI", reduced(x, "SKKI", 9), 2);
+        due("SII", x.termType("SII"), NONE);
+        due("SKKI", x.reduced("SKKI", 9), 2);
         due("outputLength()", x.outputLength(), 1);
         x = with("CCpqp");
         due("isValid(0)", x.isValid(0), 0);
@@ -986,11 +879,11 @@ public final class PromisesTest {
         due("countValuations(0, 2)", x.countValuations(0, 2), 4);
         due("setDesignated(7)", x.setDesignated(7), 4);
         due("isValid(0)", x.isValid(0), 1);
-        x = new CondensedDetachment();
-        due("CpC", axiom(x, "CpC"), -103);
-        due("S(K", reduced(x, "S(K", 1), -103);
+        x = new Bench();
+        due("CpC", x.axiom("CpC"), -103);
+        due("S(K", x.reduced("S(K", 1), -103);
         due("allocate(0, 1, 4)", x.allocate(0, 1, 4), 4);
-        due("p", axiom(x, "p"), 0);
+        due("p", x.axiom("p"), 0);
         due("writeFormula(0)", x.writeFormula(0), 1);
         due("storeOutput(0, 3)", x.storeOutput(0, 3), 1);
         due("rowElement(0, 3)", x.rowElement(0, 3), 97);

@@ -25,13 +25,16 @@ public final class RoomTest {
 
     public static void main(String[] args) throws Exception {
         countRoom();
-        CondensedDetachment x = new CondensedDetachment();
-        useAll(x);
+        Bench[] benches = new Bench[21];
+        for (int i = 0; i < benches.length; i++) {
+            benches[i] = new Bench();
+        }
+        useAll(benches[0]);
         com.sun.management.ThreadMXBean threads = (com.sun.management.ThreadMXBean) ManagementFactory.getThreadMXBean();
         long thread = Thread.currentThread().getId();
         long before = threads.getThreadAllocatedBytes(thread);
-        for (int i = 0; i < 20; i++) {
-            useAll(x);
+        for (int i = 1; i < benches.length; i++) {
+            useAll(benches[i]);
         }
         atMost("bytes made by calls", threads.getThreadAllocatedBytes(thread) - before, MOST_BYTES);
         System.out.println(wrong == 0 ? "the room is as due" : "the room is not as due");
@@ -40,21 +43,15 @@ public final class RoomTest {
         }
     }
 
-    private static void type(CondensedDetachment x, String text) {
-        for (int i = 0; i < text.length(); i++) {
-            x.append(text.charAt(i));
-        }
-    }
-
     /** The calls with the most work in them, after which the list is empty again. */
-    private static void useAll(CondensedDetachment x) {
-        type(x, "CpCqp");
+    private static void useAll(Bench x) {
+        x.type("CpCqp");
         x.addAxiom();
-        type(x, "CCpCqrCCpqCpr");
+        x.type("CCpCqrCCpqCpr");
         x.addAxiom();
-        type(x, "S(BWC)(KI)");
+        x.type("S(BWC)(KI)");
         x.addType();
-        type(x, "CaCbCcCdCeCfCgCha");
+        x.type("CaCbCcCdCeCfCgCha");
         x.addAxiom();
         x.isValid(3);
         x.refutation(3, 0);
@@ -70,10 +67,10 @@ public final class RoomTest {
             x.writeProof(i);
         }
         x.cut(4);
-        type(x, "DDD2D12DD11D21D1D2D1D12");
+        x.type("DDD2D12DD11D21D1D2D1D12");
         x.prove();
         x.cut(0);
-        type(x, "SII(SII)");
+        x.type("SII(SII)");
         x.reduceTerm(50);
         for (int row = 0; row < 3; row++) {
             x.allocate(row, 1, 80);

@@ -8,11 +8,16 @@ final class Bench {
     private final CondensedDetachment x = new CondensedDetachment();
     private int calls;
 
+    /** Thrown before the 513th call. */
+    static final class NoCallsLeft extends RuntimeException {
+        private static final long serialVersionUID = 1L;
+    }
+
     private CondensedDetachment next() {
-        calls++;
-        if (calls > MOST_CALLS) {
-            throw new IllegalStateException("this test makes more than " + MOST_CALLS + " calls");
+        if (calls == MOST_CALLS) {
+            throw new NoCallsLeft();
         }
+        calls++;
         return x;
     }
 

@@ -194,10 +194,6 @@ final class Checks {
         x.type("S(KI)W");
     }
 
-    static void nothing(Bench x) {
-        x.listSize();
-    }
-
     // ---- formulas ----
 
     /** The left-branching formula C..Caa..a with an odd size. */
