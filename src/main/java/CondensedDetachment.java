@@ -848,14 +848,16 @@ public final class CondensedDetachment {
             int minorNode = major.size();
             load(major, 0);
             load(minor, minorNode);
-            return solve(1, minorNode) ? writeOut(right[0], result) : NONE;
+            mergeAll(1, minorNode);
+            return measure() ? writeOut(right[0], result) : NONE;
         }
 
         int unifyInto(Formula first, Formula second, Formula result) {
             int secondNode = first.size();
             load(first, 0);
             load(second, secondNode);
-            return solve(0, secondNode) ? writeOut(0, result) : NONE;
+            mergeAll(0, secondNode);
+            return measure() ? writeOut(0, result) : NONE;
         }
 
         /** Goes backwards, so that both parts of an implication are on the stack when it comes; the left one is next to it. */
@@ -884,7 +886,8 @@ public final class CondensedDetachment {
             nodes = offset + formula.size();
         }
 
-        private boolean solve(int first, int second) {
+        /** Afterwards the parent of each part is the head of its class. */
+        private void mergeAll(int first, int second) {
             queued = 0;
             enqueue(first, second);
             for (int i = 0; i < queued && i < QUEUE; i++) {
@@ -893,7 +896,6 @@ public final class CondensedDetachment {
             for (int node = 0; node < nodes; node++) {
                 parent[node] = headOf(node);
             }
-            return measure();
         }
 
         private void enqueue(int first, int second) {
@@ -927,7 +929,7 @@ public final class CondensedDetachment {
             }
         }
 
-        /** Sizes grow from the variables upwards; a class that never gets one would contain itself. */
+        /** Sizes grow from the variables upwards; a class that never gets one would contain itself, so there is no result. */
         private boolean measure() {
             int open = 0;
             for (int node = 0; node < nodes; node++) {

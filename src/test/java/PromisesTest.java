@@ -69,7 +69,6 @@ public final class PromisesTest {
         rowsAlone();
         copies();
         rowsAndTexts();
-        examples();
         System.out.println(wrong == 0 ? "all promises are kept" : wrong + " answers are not as due");
         if (wrong != 0) {
             System.exit(1);
@@ -847,45 +846,5 @@ public final class PromisesTest {
         x.put(2, 0, -1);
         due("a negative element", x.loadText(2, 0, 1), 0);
         due("clearText()", x.clearText(), 1);
-    }
-
-    private static void examples() {
-        promise = 0;
-        Bench x = with("CpCqp");
-        due("detach(0, 0)", x.detach(0, 0), 1);
-        due("writeFormula(1)", x.writeFormula(1), 7);
-        due("outputAt(1)", x.outputAt(1), 97);
-        due("outputAt(3)", x.outputAt(3), 98);
-        due("proofSize(1)", x.proofSize(1), 1);
-        due("isInstance(0, 1)", x.isInstance(0, 1), 0);
-        due("moreGeneral(0)", x.moreGeneral(0), NONE);
-        x = new Bench();
-        due("K", x.termType("K"), 0);
-        due("S", x.termType("S"), 1);
-        due("D21", x.proof("D21"), 2);
-        due("formulaSize(2)", x.formulaSize(2), 7);
-        due("variableCount(2)", x.variableCount(2), 2);
-        due("majorOf(2)", x.majorOf(2), 1);
-        x = new Bench();
-        due("SKK", x.termType("SKK"), 0);
-        due("formulaSize(0)", x.formulaSize(0), 3);
-        due("SII", x.termType("SII"), NONE);
-        due("SKKI", x.reduced("SKKI", 9), 2);
-        due("outputLength()", x.outputLength(), 1);
-        x = with("CCpqp");
-        due("isValid(0)", x.isValid(0), 0);
-        due("refutation(0, 0)", x.refutation(0, 0), 0);
-        due("refutation(0, 1)", x.refutation(0, 1), 0);
-        due("countValuations(0, 2)", x.countValuations(0, 2), 4);
-        due("setDesignated(7)", x.setDesignated(7), 4);
-        due("isValid(0)", x.isValid(0), 1);
-        x = new Bench();
-        due("CpC", x.axiom("CpC"), -103);
-        due("S(K", x.reduced("S(K", 1), -103);
-        due("allocate(0, 1, 4)", x.allocate(0, 1, 4), 4);
-        due("p", x.axiom("p"), 0);
-        due("writeFormula(0)", x.writeFormula(0), 1);
-        due("storeOutput(0, 3)", x.storeOutput(0, 3), 1);
-        due("rowElement(0, 3)", x.rowElement(0, 3), 97);
     }
 }
